@@ -5,14 +5,6 @@
 final class ChangeBoundaryTest {
     private static final int NONE = TreeTolerance.NONE;
     private static final int FULL = TreeTolerance.FULL;
-    private static final int LEAST_INT = Integer.MIN_VALUE;
-    private static final int GREATEST_INT = Integer.MAX_VALUE;
-
-    // Beside the nearest wrong numbers, those that a shift or a cast would wrap round to a right one.
-    private static final int[] TOO_SMALL = {-1, -2, -32, -31, -256, -65536, LEAST_INT, LEAST_INT + 1};
-    private static final int[] TOO_GREAT_VERTICES = {6, 7, 32, 33, 256, 257, 65536, GREATEST_INT};
-    private static final int[] TOO_GREAT_WEIGHTS = {51, 52, 64, 256, 257, 65536, GREATEST_INT};
-    private static final int[] TOO_GREAT_NUMBERS = {10, 11, 31, 32, 34, 35, 64, 66, 256, 258, 65536, GREATEST_INT};
 
     private static final Graph[] GRAPHS = {Graph.EMPTY, Graph.SOME, Graph.TEN};
     private static final Answers ANSWERS = new Answers();
@@ -184,55 +176,55 @@ final class ChangeBoundaryTest {
     }
 
     private static void addFromTooSmall() {
-        for (int a : TOO_SMALL) {
+        for (int a : WrongInputs.TOO_SMALL) {
             addRefused(Graph.EMPTY, a, 1, 1, NONE);
             addRefused(Graph.SOME, a, 5, 1, NONE);
         }
     }
 
     private static void addFromTooGreat() {
-        for (int a : TOO_GREAT_VERTICES) {
+        for (int a : WrongInputs.TOO_GREAT_VERTICES) {
             addRefused(Graph.EMPTY, a, 0, 1, NONE);
             addRefused(Graph.SOME, a, 5, 1, NONE);
         }
     }
 
     private static void addToTooSmall() {
-        for (int b : TOO_SMALL) {
+        for (int b : WrongInputs.TOO_SMALL) {
             addRefused(Graph.EMPTY, 1, b, 1, NONE);
             addRefused(Graph.SOME, 5, b, 1, NONE);
         }
     }
 
     private static void addToTooGreat() {
-        for (int b : TOO_GREAT_VERTICES) {
+        for (int b : WrongInputs.TOO_GREAT_VERTICES) {
             addRefused(Graph.EMPTY, 0, b, 1, NONE);
             addRefused(Graph.SOME, 5, b, 1, NONE);
         }
     }
 
     private static void addBetweenNoVertices() {
-        for (int small : TOO_SMALL) {
-            for (int great : TOO_GREAT_VERTICES) {
+        for (int small : WrongInputs.TOO_SMALL) {
+            for (int great : WrongInputs.TOO_GREAT_VERTICES) {
                 addRefused(Graph.EMPTY, small, great, 1, NONE);
                 addRefused(Graph.EMPTY, great, small, 1, NONE);
             }
             addRefused(Graph.EMPTY, small, small, 1, NONE);
         }
-        for (int great : TOO_GREAT_VERTICES) {
+        for (int great : WrongInputs.TOO_GREAT_VERTICES) {
             addRefused(Graph.EMPTY, great, great, 1, NONE);
         }
     }
 
     private static void addOfTooSmallWeight() {
-        for (int weight : TOO_SMALL) {
+        for (int weight : WrongInputs.TOO_SMALL) {
             addRefused(Graph.EMPTY, 0, 5, weight, NONE);
             addRefused(Graph.SOME, 5, 0, weight, NONE);
         }
     }
 
     private static void addOfTooGreatWeight() {
-        for (int weight : TOO_GREAT_WEIGHTS) {
+        for (int weight : WrongInputs.TOO_GREAT_WEIGHTS) {
             addRefused(Graph.EMPTY, 0, 5, weight, NONE);
             addRefused(Graph.SOME, 5, 0, weight, NONE);
         }
@@ -320,7 +312,7 @@ final class ChangeBoundaryTest {
 
     private static void removeOfTooSmall() {
         for (Graph graph : GRAPHS) {
-            for (int e : TOO_SMALL) {
+            for (int e : WrongInputs.TOO_SMALL) {
                 removeRefused(graph, e);
             }
         }
@@ -328,7 +320,7 @@ final class ChangeBoundaryTest {
 
     private static void removeOfTooGreat() {
         for (Graph graph : GRAPHS) {
-            for (int e : TOO_GREAT_NUMBERS) {
+            for (int e : WrongInputs.TOO_GREAT_NUMBERS) {
                 removeRefused(graph, e);
             }
         }
@@ -379,7 +371,7 @@ final class ChangeBoundaryTest {
 
     private static void reweighOfTooSmall() {
         for (Graph graph : GRAPHS) {
-            for (int e : TOO_SMALL) {
+            for (int e : WrongInputs.TOO_SMALL) {
                 reweighRefused(graph, e, 1);
             }
         }
@@ -387,21 +379,21 @@ final class ChangeBoundaryTest {
 
     private static void reweighOfTooGreat() {
         for (Graph graph : GRAPHS) {
-            for (int e : TOO_GREAT_NUMBERS) {
+            for (int e : WrongInputs.TOO_GREAT_NUMBERS) {
                 reweighRefused(graph, e, 1);
             }
         }
     }
 
     private static void reweighToTooSmall() {
-        for (int weight : TOO_SMALL) {
+        for (int weight : WrongInputs.TOO_SMALL) {
             reweighRefused(Graph.SOME, 0, weight);
             reweighRefused(Graph.TEN, 9, weight);
         }
     }
 
     private static void reweighToTooGreat() {
-        for (int weight : TOO_GREAT_WEIGHTS) {
+        for (int weight : WrongInputs.TOO_GREAT_WEIGHTS) {
             reweighRefused(Graph.SOME, 0, weight);
             reweighRefused(Graph.TEN, 9, weight);
         }
@@ -471,7 +463,7 @@ final class ChangeBoundaryTest {
 
     private static void weightOfTooSmall() {
         for (Graph graph : GRAPHS) {
-            for (int e : TOO_SMALL) {
+            for (int e : WrongInputs.TOO_SMALL) {
                 weightRefused(graph, e);
             }
         }
@@ -479,7 +471,7 @@ final class ChangeBoundaryTest {
 
     private static void weightOfTooGreat() {
         for (Graph graph : GRAPHS) {
-            for (int e : TOO_GREAT_NUMBERS) {
+            for (int e : WrongInputs.TOO_GREAT_NUMBERS) {
                 weightRefused(graph, e);
             }
         }
@@ -494,21 +486,21 @@ final class ChangeBoundaryTest {
     private static void fullAndFromNoVertex() {
         addRefused(Graph.TEN, -1, 1, 1, NONE);
         addRefused(Graph.TEN, 6, 1, 1, NONE);
-        addRefused(Graph.TEN, LEAST_INT, 1, 1, NONE);
-        addRefused(Graph.TEN, GREATEST_INT, 1, 1, NONE);
+        addRefused(Graph.TEN, WrongInputs.LEAST_INT, 1, 1, NONE);
+        addRefused(Graph.TEN, WrongInputs.GREATEST_INT, 1, 1, NONE);
     }
 
     private static void fullAndToNoVertex() {
         addRefused(Graph.TEN, 1, -1, 1, NONE);
         addRefused(Graph.TEN, 1, 6, 1, NONE);
-        addRefused(Graph.TEN, 1, LEAST_INT, 1, NONE);
-        addRefused(Graph.TEN, 1, GREATEST_INT, 1, NONE);
+        addRefused(Graph.TEN, 1, WrongInputs.LEAST_INT, 1, NONE);
+        addRefused(Graph.TEN, 1, WrongInputs.GREATEST_INT, 1, NONE);
     }
 
     private static void fullAndNoWeight() {
         addRefused(Graph.TEN, 0, 1, -1, NONE);
         addRefused(Graph.TEN, 0, 1, 51, NONE);
-        addRefused(Graph.TEN, 0, 1, LEAST_INT, NONE);
-        addRefused(Graph.TEN, 0, 1, GREATEST_INT, NONE);
+        addRefused(Graph.TEN, 0, 1, WrongInputs.LEAST_INT, NONE);
+        addRefused(Graph.TEN, 0, 1, WrongInputs.GREATEST_INT, NONE);
     }
 }

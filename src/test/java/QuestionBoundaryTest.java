@@ -6,13 +6,6 @@ import java.util.function.ToIntBiFunction;
  */
 final class QuestionBoundaryTest {
     private static final int NONE = TreeTolerance.NONE;
-    private static final int LEAST_INT = Integer.MIN_VALUE;
-    private static final int GREATEST_INT = Integer.MAX_VALUE;
-
-    // Beside the nearest wrong numbers, those that a shift or a cast would wrap round to a right one.
-    private static final int[] TOO_SMALL = {-1, -2, -32, -31, -256, -65536, LEAST_INT, LEAST_INT + 1};
-    private static final int[] TOO_GREAT_VERTICES = {6, 7, 32, 33, 256, 257, 65536, GREATEST_INT};
-    private static final int[] TOO_GREAT_NUMBERS = {10, 11, 31, 32, 34, 35, 64, 66, 256, 258, 65536, GREATEST_INT};
 
     private static final Graph[] GRAPHS = {Graph.EMPTY, Graph.SOME, Graph.TEN};
     private static final Graph ONE = Graph.of(2, 5, 50);
@@ -111,12 +104,12 @@ final class QuestionBoundaryTest {
         test("14: NONE when one can't get from a to b, no edges", QuestionBoundaryTest::noWayInEmpty);
         test("14: NONE when one can't get from a to b, parts", QuestionBoundaryTest::noWayBetweenParts);
         test("14: NONE when one can't get from a to b any more", QuestionBoundaryTest::noWayAnyMore);
-        test("14: NONE when a is not 0 .. 5, too small", () -> noWayFrom(TOO_SMALL));
-        test("14: NONE when a is not 0 .. 5, too great", () -> noWayFrom(TOO_GREAT_VERTICES));
-        test("14: NONE when b is not 0 .. 5, too small", () -> noWayTo(TOO_SMALL));
-        test("14: NONE when b is not 0 .. 5, too great", () -> noWayTo(TOO_GREAT_VERTICES));
-        test("14: NONE when a = b is not 0 .. 5, too small", () -> noWayToItself(TOO_SMALL));
-        test("14: NONE when a = b is not 0 .. 5, too great", () -> noWayToItself(TOO_GREAT_VERTICES));
+        test("14: NONE when a is not 0 .. 5, too small", () -> noWayFrom(WrongInputs.TOO_SMALL));
+        test("14: NONE when a is not 0 .. 5, too great", () -> noWayFrom(WrongInputs.TOO_GREAT_VERTICES));
+        test("14: NONE when b is not 0 .. 5, too small", () -> noWayTo(WrongInputs.TOO_SMALL));
+        test("14: NONE when b is not 0 .. 5, too great", () -> noWayTo(WrongInputs.TOO_GREAT_VERTICES));
+        test("14: NONE when a = b is not 0 .. 5, too small", () -> noWayToItself(WrongInputs.TOO_SMALL));
+        test("14: NONE when a = b is not 0 .. 5, too great", () -> noWayToItself(WrongInputs.TOO_GREAT_VERTICES));
 
         test("15: no edges", () -> due("possible", Graph.EMPTY.made().possible(), 0));
         test("15: bit e for edge e, one edge", QuestionBoundaryTest::possibleOfOneLeft);
@@ -182,7 +175,7 @@ final class QuestionBoundaryTest {
 
     private static void tooSmall(ToIntBiFunction<TreeTolerance, Integer> question) {
         for (Graph graph : GRAPHS) {
-            for (int e : TOO_SMALL) {
+            for (int e : WrongInputs.TOO_SMALL) {
                 noEdge(graph, question, e);
             }
         }
@@ -190,7 +183,7 @@ final class QuestionBoundaryTest {
 
     private static void tooGreat(ToIntBiFunction<TreeTolerance, Integer> question) {
         for (Graph graph : GRAPHS) {
-            for (int e : TOO_GREAT_NUMBERS) {
+            for (int e : WrongInputs.TOO_GREAT_NUMBERS) {
                 noEdge(graph, question, e);
             }
         }
